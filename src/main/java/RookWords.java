@@ -1467,8 +1467,9 @@ public final class RookWords {
             while (i >= 0 && row[i] >= row.length) {
                 i--;
             }
-            if (i >= 0) {
-                Arrays.fill(row, i, row.length, row[i] + 1);
+            int height = i >= 0 ? row[i] + 1 : row.length;
+            for (int behind = Math.max(i, 0); behind < row.length; behind++) {
+                row[behind] = height;
             }
         }
 

@@ -385,6 +385,11 @@ public final class PromiseTest {
         due(0, x.number(13, 0));
         due(0, x.number(0, 13));
         due(0, x.number(1, 14));
+        put(x, 0, "U");
+        x.add(0, 3);
+        due(3, x.number(1, 0));
+        due(0, x.number(0, 13));
+        due(0, x.number(2, -13));
         due(0, x.number(Integer.MAX_VALUE, Integer.MIN_VALUE));
     }
 
@@ -501,6 +506,9 @@ public final class PromiseTest {
         due(3, x.turned(0));
         dueRows(x, 0, 3, 4, 0);
         for (int p : NO_PIECES) due(NONE, x.turned(p));
+        x.steps(0, 6, 123456);
+        due(21, x.turned(0));
+        dueRows(x, 0, 63, 62, 60, 56, 48, 32);
     }
 
     private static void flipped() {
@@ -718,6 +726,8 @@ public final class PromiseTest {
         due(1, x.fits(6, 0));
         due(923, x.fits(6, 1));
         due(0, x.fits(5, 0));
+        for (int k = 3; k <= 5; k++) x.see(k, new int[] {2400, 5400, 4320}[k - 3]);
+        due(1, x.fits(6, 0));
         x.see(-1, 0);
         x.see(0, 0);
         due(0, x.fits(6, 0));
@@ -758,7 +768,8 @@ public final class PromiseTest {
         due(0, x.cheapest(1, 0, -1));
         due(NONE, x.cheapest(0, 1, 3));
         due(NONE, x.cheapest(0, -1, -2));
-        due(BAD, x.cheapest(0, -1, 0));
+        due(NONE, x.cheapest(0, -1, 3));
+        due(BAD, x.cheapest(0, -1, 2));
         for (int p : NO_PIECES) due(NONE, x.cheapest(p, -1, 0));
         x.steps(2, 6, 666666);
         x.weight(0, 0, 1);
@@ -793,6 +804,15 @@ public final class PromiseTest {
         due(STATE, x.listed(1, 0, 0, 4));
         due(BAD, x.listed(1, -1, 0, 4));
         due(NONE, x.listed(1, 0, 0, 5));
+        x.side(2, 1);
+        x.cell(2, 0, 0);
+        x.weight(0, 0, 4);
+        due(4, x.listed(2, 1, 0, -1));
+        due(0, x.listed(2, 1, 0, 0));
+        due(-5, x.listed(2, 1, 1, 0));
+        lay(x, 2, 6, 0, 2);
+        int[][] leaning = {{2, 2, -1, 1}, {-5, -5, -5, -5}};
+        for (int at = 0; at < 2; at++) for (int i = -1; i < 3; i++) due(leaning[at][i + 1], x.listed(2, 2, at, i));
         listedOfFour(x);
     }
 
@@ -897,6 +917,7 @@ public final class PromiseTest {
             dueWord(told[t], x, t % 6);
             due(0, x.told(3));
         }
+        readDeep(x);
         x.make(0, 1, 1);
         String[] faulty = {"", ")", "2", "(", "()", "U22", "(U", "U)", "(U))", "(((((U)))))", "u", "U D", "(2)",
             "((((U))))((((U)))", "U9U9)", "(U9U9", "(U", "(U)2(", "((U)", "U\0"};
@@ -919,6 +940,18 @@ public final class PromiseTest {
         for (int i = 0; i < 79; i++) x.feed("U0".charAt(i % 2));
         x.feed('(');
         due(-180, x.read(0));
+    }
+
+    private static void readDeep(RookWords x) {
+        due(8, readText(x, 0, "(U(U(U(D)2)2)1)1"));
+        dueWord("UUUDDUDD", x, 0);
+        due(12, readText(x, 0, "U9U3(U9U3(U9U3(U9U3(U9U3)0)0)0)0"));
+        dueWord("UUUUUUUUUUUU", x, 0);
+        due(FULL, readText(x, 0, "U9U3(U9U3(U9U3(U9U3(U9U3U9)0)0)0)0"));
+        due(FULL, readText(x, 0, "U9U3(U9U3(U9U3(U9U3(U9U3)1)0)0)0"));
+        // Bytes of an earlier text don't count any more.
+        due(9, readText(x, 0, "U9"));
+        due(1, readText(x, 0, "U"));
     }
 
     private static void write() {
@@ -973,7 +1006,23 @@ public final class PromiseTest {
         due(STATE, x.undo());
         due(0, x.row(0, 0));
         due(2, x.weight(0, 0, 2));
+        undoOnlyTen();
         undoIsForgotten();
+    }
+
+    /** Of twelve CHANGES, all unlike, the first two stay. */
+    private static void undoOnlyTen() {
+        RookWords x = new RookWords();
+        for (int c = 0; c < 12; c++) {
+            if (c % 3 == 2) x.weight(c / 2, c / 3, c - 2);
+            else x.cell(c / 2, c % 3, (c + c / 4) % 3);
+        }
+        due(10, x.told(2));
+        for (int left = 9; left >= 0; left--) due(left, x.undo());
+        due(STATE, x.undo());
+        due(2, x.told(1));
+        dueRows(x, 0, 1, 2, 0);
+        for (int i = 0; i < 6; i++) for (int j = 0; j < 6; j++) due(1, x.weight(i, j, 1));
     }
 
     private static void undoIsForgotten() {
@@ -1051,6 +1100,16 @@ public final class PromiseTest {
         due(1, x.restore());
         dueWord("", x, 0);
         dueWord("D", x, 1);
+        x.steps(3, 6, 123456);
+        for (int k = 0; k < 4; k++) x.see(k == 3 ? 1 : 4, k == 3 ? 2 : 0);
+        x.image();
+        x.side(3, 2);
+        x.see(-1, 0);
+        for (int k = 0; k < 4; k++) x.see(3, 9);
+        x.restore();
+        dueRows(x, 3, 1, 3, 7, 15, 31, 63);
+        due(4, x.told(5));
+        due(2, x.fits(2, 0));
     }
 
     private static void restore() {
@@ -1141,6 +1200,7 @@ public final class PromiseTest {
         due(1, x.tape(0, -1, 99));
         due(1, x.tape(0, -1, -99));
         due(NOTHING, x.item(0, 0, 0));
+        due(NO, x.peek(0, 0));
     }
 
     private static void item() {
@@ -1205,6 +1265,8 @@ public final class PromiseTest {
         due(PLACE, x.shift(0, 0, 1, 4, 0));
         due(PLACE, x.shift(0, 0, 1, 0, 4));
         due(PLACE, x.shift(1, 0, 0, 0, 4));
+        due(PLACE, x.shift(0, 4, 0, 0, 2));
+        due(PLACE, x.shift(0, 0, 0, 4, 2));
         due(PLACE, x.shift(0, 0, 1, 0, -1));
         due(PLACE, x.shift(0, -1, 1, 0, 1));
         due(PLACE, x.shift(0, 0, 1, -1, 1));
