@@ -1205,6 +1205,7 @@ public final class RookWords {
         private static final int MASKS = 1 << MAX_SIDE;
         private static final int STANDS = 625;
         private static final int NOT_LISTED = -1;
+        private static final int ALL_BUT_SIGN = 0x7fffffff;
 
         private final int[] ways = new int[MASKS];
         private final int[] counts = new int[MAX_SIDE + 1];
@@ -1390,7 +1391,7 @@ public final class RookWords {
                 int had = cells;
                 for (int i = 0; i < board.side; i++) {
                     z = z * 1103515245 + 12345;
-                    int bit = bitNumbered(left, (z & Integer.MAX_VALUE) / 65536 % (board.side - i));
+                    int bit = bitNumbered(left, (z & ALL_BUT_SIGN) / 65536 % (board.side - i));
                     left ^= bit;
                     cells += (board.rows[i] & bit) != 0 ? 1 : 0;
                 }
